@@ -1,14 +1,15 @@
 /**
  * A small graph held against chance: all graphs with as many nodes, weighed by four models.
  *
- * A graph is held as its number: bit p is set, if pair p is an edge. Every call that looks at all
- * graphs counts through these numbers and makes no objects.
+ * A graph is held as its number: bit p is set, if pair p is an edge. A sum over all graphs goes
+ * through these numbers and makes no objects.
  */
 public final class RandomModels {
   public static final int BAD = -1, NONE = -2;
 
   private static final int MOST_NODES = 6;
   private static final int MOST_PAIRS = 15;
+  private static final int MOST_GRAPHS = 1 << MOST_PAIRS;
   private static final int LABELS = 3;
   private static final int MOST_CHANCE = 10;
   private static final int MOST_S = 3;
@@ -23,6 +24,7 @@ public final class RandomModels {
   private static final int GREATEST_DEGREE = 4;
   private static final int SQUARES = 5;
   private static final int LONE = 6;
+  private static final int SAME_LABEL = 7;
 
   private static final int MODELS = 4;
   private static final int FREE = 0;
@@ -46,7 +48,7 @@ public final class RandomModels {
   public RandomModels() {
     pairs = new Pairs();
     things = new Things(pairs);
-    weights = new Weights(things);
+    weights = new Weights(pairs, things);
     dice = new Dice();
     renumbering = new Renumbering();
     ways = new Ways(pairs);
@@ -66,7 +68,7 @@ public final class RandomModels {
     for (int node = 0; node < MOST_NODES; node++) {
       labels[node] = 0;
     }
-    things.setAlikeLabels(pairs.ofLikeLabels(labels));
+    things.setSameLabel(pairs.ofSameLabel(labels));
     ways.forget();
     return Pairs.among(n);
   }
@@ -88,7 +90,7 @@ public final class RandomModels {
     }
     int before = labels[node];
     labels[node] = l;
-    things.setAlikeLabels(pairs.ofLikeLabels(labels));
+    things.setSameLabel(pairs.ofSameLabel(labels));
     return before;
   }
 
@@ -154,13 +156,14 @@ public final class RandomModels {
       return BAD;
     }
     weights.prepare(model, graph, nodes);
-    int own = things.measure(what, graph, nodes);
+    things.makeRoom(what, graphs);
+    int own = things.look(what, graph, nodes);
     long sum = 0;
     long all = 0;
     for (int other = 0; other < graphs; other++) {
       long weight = weights.of(other);
       if (weight > 0) {
-        int its = things.measure(what, other, nodes);
+        int its = things.look(what, other, nodes);
         all += weight;
         sum += (side == OR_MORE ? its >= own : its <= own) ? weight : 0;
       }
@@ -173,13 +176,14 @@ public final class RandomModels {
       return BAD;
     }
     weights.prepare(model, graph, nodes);
+    things.makeRoom(what, graphs);
     long sum = 0;
     long all = 0;
     for (int other = 0; other < graphs; other++) {
       long weight = weights.of(other);
       if (weight > 0) {
         all += weight;
-        sum += weight * things.measure(what, other, nodes);
+        sum += weight * things.look(what, other, nodes);
       }
     }
     return tell(sum, all, part);
@@ -365,43 +369,27 @@ public final class RandomModels {
     return larger;
   }
 
-  /** Which pair has which nodes; pairs in sets are bits, as in a graph's number. */
+  /** Which pair has which nodes; sets of pairs are bits, as in a graph's number. */
   private static final class Pairs {
-    private final int[] low;
-    private final int[] high;
-    private final int[] star;
-    private final int[] within;
+    private final int[] lows;
+    private final int[] highs;
+    private final int[] stars;
 
     Pairs() {
-      low = new int[MOST_PAIRS];
-      high = new int[MOST_PAIRS];
-      star = new int[MOST_NODES];
-      within = new int[1 << (MOST_NODES - 1)];
-      fillEnds();
-      fillWithin();
-    }
-
-    private void fillEnds() {
+      lows = new int[MOST_PAIRS];
+      highs = new int[MOST_PAIRS];
+      stars = new int[MOST_NODES];
       for (int b = 1; b < MOST_NODES; b++) {
         for (int a = 0; a < b; a++) {
           int p = indexOf(a, b);
-          low[p] = a;
-          high[p] = b;
-          star[a] |= 1 << p;
-          star[b] |= 1 << p;
+          lows[p] = a;
+          highs[p] = b;
+          stars[a] |= 1 << p;
+          stars[b] |= 1 << p;
         }
       }
     }
 
-    private void fillWithin() {
-      for (int node = 0; node < MOST_NODES - 1; node++) {
-        for (int lesser = 0; lesser < 1 << node; lesser++) {
-          within[lesser | 1 << node] = within[lesser] | lesser << among(node);
-        }
-      }
-    }
-
-    /** How many pairs n nodes have: also the first pair of node n with a lesser one. */
     static int among(int n) {
       return n * (n - 1) / 2;
     }
@@ -410,153 +398,196 @@ public final class RandomModels {
       return a < b ? among(b) + a : among(a) + b;
     }
 
-    /** The lesser nodes, as bits, with which a node has an edge. */
-    static int lesserNear(int graph, int node) {
-      return graph >> among(node) & ((1 << node) - 1);
-    }
-
     int low(int p) {
-      return p >= 0 && p < MOST_PAIRS ? low[p] : 0;
+      return p >= 0 && p < MOST_PAIRS ? lows[p] : 0;
     }
 
     int high(int p) {
-      return p >= 0 && p < MOST_PAIRS ? high[p] : 1;
+      return p >= 0 && p < MOST_PAIRS ? highs[p] : 1;
     }
 
-    /** All pairs of a node. */
-    int star(int node) {
-      return node >= 0 && node < MOST_NODES ? star[node] : 0;
+    int degree(int graph, int node) {
+      return node >= 0 && node < MOST_NODES ? Integer.bitCount(graph & stars[node]) : 0;
     }
 
-    /** All pairs of two nodes of a set; the set leaves out node 5, which no one here needs. */
-    int within(int set) {
-      return set >= 0 && set < within.length ? within[set] : 0;
-    }
-
-    int ofLikeLabels(int[] labels) {
-      int like = 0;
-      for (int p = 0; p < MOST_PAIRS; p++) {
-        if (low[p] < labels.length && high[p] < labels.length
-            && labels[low[p]] == labels[high[p]]) {
-          like |= 1 << p;
+    /** All pairs of two nodes with the same label. */
+    int ofSameLabel(int[] labels) {
+      int same = 0;
+      for (int b = 1; b < labels.length; b++) {
+        for (int a = 0; a < b; a++) {
+          if (labels[a] == labels[b]) {
+            same |= 1 << indexOf(a, b);
+          }
         }
       }
-      return like;
+      return same;
+    }
+
+    /** Whether edges lead from a node to another one. */
+    boolean hangTogether(int graph, int from, int to) {
+      int reached = 1 << from;
+      int before = 0;
+      for (int steps = 1; steps < MOST_NODES && reached != before; steps++) {
+        before = reached;
+        for (int p = 0; p < MOST_PAIRS; p++) {
+          int ends = 1 << lows[p] | 1 << highs[p];
+          if ((graph >> p & 1) != 0 && (reached & ends) != 0) {
+            reached |= ends;
+          }
+        }
+      }
+      return (reached >> to & 1) != 0;
     }
   }
 
-  /** How much of each thing a graph has. */
+  /**
+   * How much of each thing a graph has.
+   *
+   * The things 0 to 6 are counted together, edge after edge, into one packed number. It holds
+   * lone nodes and parts by how many fewer there are than nodes, so it is the same for every
+   * number of nodes. What has been counted for a sum over all graphs is kept, since later sums
+   * ask for it again.
+   */
   private static final class Things {
+    private static final int[] SHIFTS = {0, 4, 9, 15, 18, 21, 27};
+    private static final int[] MASKS = {15, 31, 63, 7, 7, 63, 7};
+    private static final int TWO_STEPS = MOST_NODES - 2;
+    private static final int THREE_STEPS = (MOST_NODES - 2) * (MOST_NODES - 3);
+
     private final Pairs pairs;
-    private final int[] parts;
-    private int alikeLabels;
+    private final int[] twoSteps;
+    private final int[] threeSteps;
+    private int[] kept;
+    private int sameLabel;
 
     Things(Pairs pairs) {
       this.pairs = pairs;
-      parts = new int[MOST_NODES];
-      alikeLabels = (1 << MOST_PAIRS) - 1;
+      twoSteps = new int[MOST_PAIRS * TWO_STEPS];
+      threeSteps = new int[MOST_PAIRS * THREE_STEPS];
+      kept = new int[1];
+      sameLabel = MOST_GRAPHS - 1;
+      for (int p = 0; p < MOST_PAIRS; p++) {
+        fillSteps(p);
+      }
     }
 
-    void setAlikeLabels(int set) {
-      alikeLabels = set;
+    /** The ways from one node of a pair to the other over one more node, and over two. */
+    private void fillSteps(int p) {
+      int a = pairs.low(p);
+      int b = pairs.high(p);
+      int two = p * TWO_STEPS;
+      int three = p * THREE_STEPS;
+      for (int c = 0; c < MOST_NODES; c++) {
+        if (c != a && c != b) {
+          int first = 1 << Pairs.indexOf(a, c);
+          twoSteps[two] = first | 1 << Pairs.indexOf(c, b);
+          two++;
+          for (int d = 0; d < MOST_NODES; d++) {
+            if (d != a && d != b && d != c) {
+              threeSteps[three] = first | 1 << Pairs.indexOf(c, d) | 1 << Pairs.indexOf(d, b);
+              three++;
+            }
+          }
+        }
+      }
     }
 
+    void setSameLabel(int set) {
+      sameLabel = set;
+    }
+
+    /** Before a thing is looked at in so many graphs. */
+    void makeRoom(int what, int graphs) {
+      if (!isQuick(what) && graphs > kept.length && graphs <= MOST_GRAPHS) {
+        int[] larger = new int[graphs];
+        System.arraycopy(kept, 0, larger, 0, kept.length);
+        kept = larger;
+      }
+    }
+
+    /** For a single graph: nothing is kept. */
     int measure(int what, int graph, int nodes) {
+      int packed = 0;
+      int grown = 0;
+      for (int p = 0; p < MOST_PAIRS; p++) {
+        if ((graph >> p & 1) != 0) {
+          packed = withEdge(packed, grown, p);
+          grown |= 1 << p;
+        }
+      }
+      return read(what, packed, graph, nodes);
+    }
+
+    /** For sums over all graphs: room was made before. */
+    int look(int what, int graph, int nodes) {
+      return read(what, isQuick(what) ? 0 : keptOf(graph, MOST_PAIRS), graph, nodes);
+    }
+
+    /** Whether it is quicker counted than kept. */
+    private static boolean isQuick(int what) {
+      return what == EDGES || what == SAME_LABEL;
+    }
+
+    private int read(int what, int packed, int graph, int nodes) {
       switch (what) {
         case EDGES:
           return Integer.bitCount(graph);
-        case TRIANGLES:
-          return triangles(graph, nodes);
-        case WEDGES:
-          return wedges(graph, nodes);
+        case SAME_LABEL:
+          return Integer.bitCount(graph & sameLabel);
         case PARTS:
-          return parts(graph, nodes);
-        case GREATEST_DEGREE:
-          return greatestDegree(graph, nodes);
-        case SQUARES:
-          return squares(graph, nodes);
         case LONE:
-          return lone(graph, nodes);
+          return nodes - unpack(what, packed);
         default:
-          return Integer.bitCount(graph & alikeLabels);
+          return unpack(what, packed);
       }
     }
 
-    /** A triangle is told by its greatest node and the edge of two lesser ones near to it. */
-    int triangles(int graph, int nodes) {
-      int count = 0;
-      for (int node = 2; node < nodes; node++) {
-        count += Integer.bitCount(graph & pairs.within(Pairs.lesserNear(graph, node)));
-      }
-      return count;
+    private static int unpack(int what, int packed) {
+      return what >= 0 && what < SHIFTS.length ? packed >> SHIFTS[what] & MASKS[what] : 0;
     }
 
-    boolean haveSameDegrees(int one, int other, int nodes) {
-      for (int node = 0; node < nodes; node++) {
-        if (degree(one, node) != degree(other, node)) {
-          return false;
+    /** The graph has no edge from pair 'end' on, so there are at most as many levels as pairs. */
+    private int keptOf(int graph, int end) {
+      if (graph < 0 || graph >= kept.length) {
+        return 0;
+      }
+      if (kept[graph] != 0) {
+        return kept[graph];
+      }
+      for (int p = end - 1; p >= 0; p--) {
+        if ((graph >> p & 1) != 0) {
+          int rest = graph & ~(1 << p);
+          kept[graph] = withEdge(keptOf(rest, p), rest, p);
+          return kept[graph];
         }
       }
-      return true;
+      return 0;
     }
 
-    private int degree(int graph, int node) {
-      return Integer.bitCount(graph & pairs.star(node));
+    /** What a graph's packed number becomes, if pair p becomes an edge of it. */
+    private int withEdge(int packed, int graph, int p) {
+      int a = pairs.degree(graph, pairs.low(p));
+      int b = pairs.degree(graph, pairs.high(p));
+      int overOne = countWhole(graph, twoSteps, p * TWO_STEPS, TWO_STEPS);
+      int overTwo = countWhole(graph, threeSteps, p * THREE_STEPS, THREE_STEPS);
+      boolean joins = overOne == 0 && overTwo == 0
+          && !pairs.hangTogether(graph, pairs.low(p), pairs.high(p));
+      int rise = Math.max(0, Math.max(a, b) + 1 - unpack(GREATEST_DEGREE, packed));
+      int noMoreLone = (a == 0 ? 1 : 0) + (b == 0 ? 1 : 0);
+      return packed + (1 << SHIFTS[EDGES])
+          + (overOne << SHIFTS[TRIANGLES])
+          + (a + b << SHIFTS[WEDGES])
+          + ((joins ? 1 : 0) << SHIFTS[PARTS])
+          + (rise << SHIFTS[GREATEST_DEGREE])
+          + (overTwo << SHIFTS[SQUARES])
+          + (noMoreLone << SHIFTS[LONE]);
     }
 
-    private int wedges(int graph, int nodes) {
+    /** How many of some sets of pairs are edges altogether. */
+    private static int countWhole(int graph, int[] sets, int start, int length) {
       int count = 0;
-      for (int node = 0; node < nodes; node++) {
-        count += Pairs.among(degree(graph, node));
-      }
-      return count;
-    }
-
-    private int parts(int graph, int nodes) {
-      int count = 0;
-      for (int node = 0; node < nodes && node < MOST_NODES; node++) {
-        int near = Pairs.lesserNear(graph, node);
-        int joined = 1 << node;
-        int apart = 0;
-        for (int i = 0; i < count; i++) {
-          if ((parts[i] & near) != 0) {
-            joined |= parts[i];
-          } else {
-            parts[apart] = parts[i];
-            apart++;
-          }
-        }
-        parts[apart] = joined;
-        count = apart + 1;
-      }
-      return count;
-    }
-
-    private int greatestDegree(int graph, int nodes) {
-      int greatest = 0;
-      for (int node = 0; node < nodes; node++) {
-        greatest = Math.max(greatest, degree(graph, node));
-      }
-      return greatest;
-    }
-
-    /** A square is told by its greatest node, the one across, and two lesser ones near to both. */
-    private int squares(int graph, int nodes) {
-      int count = 0;
-      for (int node = 3; node < nodes; node++) {
-        int near = Pairs.lesserNear(graph, node);
-        for (int across = 0; across < node; across++) {
-          int between = pairs.within(near | 1 << across) & pairs.star(across);
-          count += Pairs.among(Integer.bitCount(graph & between));
-        }
-      }
-      return count;
-    }
-
-    private int lone(int graph, int nodes) {
-      int count = 0;
-      for (int node = 0; node < nodes; node++) {
-        if ((graph & pairs.star(node)) == 0) {
+      for (int i = start; i < start + length && i < sets.length; i++) {
+        if ((graph & sets[i]) == sets[i]) {
           count++;
         }
       }
@@ -566,9 +597,11 @@ public final class RandomModels {
 
   /** The weight that a model gives to each graph. */
   private static final class Weights {
+    private final Pairs pairs;
     private final Things things;
     private final long[] byEdges;
     private final long[] byTriangles;
+    private final int[] degrees;
     private int u;
     private int v;
     private int s;
@@ -577,11 +610,13 @@ public final class RandomModels {
     private int own;
     private int nodes;
 
-    Weights(Things things) {
+    Weights(Pairs pairs, Things things) {
+      this.pairs = pairs;
       this.things = things;
-      // As long as the masks in of() reach: 15 edges, 20 triangles at most.
+      // As long as the masks in of() reach: there are 15 edges, 20 triangles at most.
       byEdges = new long[16];
       byTriangles = new long[32];
+      degrees = new int[MOST_NODES];
       u = 1;
       v = 2;
       s = 1;
@@ -598,17 +633,23 @@ public final class RandomModels {
       t = byTriangle;
     }
 
-    /** What follows is asked by this model, with this graph as the one to compare with. */
-    void prepare(int model, int own, int nodes) {
-      this.model = model;
-      this.own = own;
-      this.nodes = nodes;
+    /** What follows is asked by this model, of graphs with so many nodes, one being the own. */
+    void prepare(int byModel, int ownGraph, int ofNodes) {
+      model = byModel;
+      own = ownGraph;
+      nodes = Math.min(ofNodes, MOST_NODES);
       int most = Pairs.among(nodes);
-      for (int m = 0; m <= most && m < byEdges.length; m++) {
+      for (int m = 0; m <= most; m++) {
         byEdges[m] = weightOfEdges(m, most);
       }
       for (int k = 0; k < byTriangles.length; k++) {
         byTriangles[k] = power(t, k);
+      }
+      for (int node = 0; node < nodes; node++) {
+        degrees[node] = pairs.degree(own, node);
+      }
+      if (countsTriangles()) {
+        things.makeRoom(TRIANGLES, 1 << most);
       }
     }
 
@@ -631,16 +672,29 @@ public final class RandomModels {
       return result;
     }
 
+    /** Triangles are dear to count, and by t = 1 they weigh nothing. */
+    private boolean countsTriangles() {
+      return model == LEANING && t != 1;
+    }
+
     long of(int graph) {
       long weight = byEdges[Integer.bitCount(graph) & 15];
-      // Triangles are dear to count, and by t = 1 they weigh nothing.
-      if (model == LEANING && t != 1) {
-        return weight * byTriangles[things.triangles(graph, nodes) & 31];
+      if (countsTriangles()) {
+        return weight * byTriangles[things.look(TRIANGLES, graph, nodes) & 31];
       }
-      if (model == DEGREES && weight != 0 && !things.haveSameDegrees(graph, own, nodes)) {
+      if (model == DEGREES && weight != 0 && !hasOwnDegrees(graph)) {
         return 0;
       }
       return weight;
+    }
+
+    private boolean hasOwnDegrees(int graph) {
+      for (int node = 0; node < nodes; node++) {
+        if (pairs.degree(graph, node) != degrees[node]) {
+          return false;
+        }
+      }
+      return true;
     }
   }
 
@@ -648,6 +702,7 @@ public final class RandomModels {
   private static final class Dice {
     private static final long FACTOR = 6364136223846793005L;
     private static final long STEP = 1442695040888963407L;
+    private static final long LARGEST = 9223372036854775807L;
     private static final int MOST_REPEATS = 1000000;
 
     private long state;
@@ -660,7 +715,7 @@ public final class RandomModels {
       if (n < 1) {
         return 0;
       }
-      long limit = Long.MAX_VALUE - Long.MAX_VALUE % n;
+      long limit = LARGEST - LARGEST % n;
       long r = 0;
       for (int i = 0; i < MOST_REPEATS; i++) {
         state = state * FACTOR + STEP;
@@ -728,6 +783,8 @@ public final class RandomModels {
 
   /** The ways to put nodes into blocks, and the best one found last. */
   private static final class Ways {
+    private static final int ABOVE_ANY_COST = 1000000;
+
     private final Pairs pairs;
     private final int[] trial;
     private final int[] best;
@@ -763,7 +820,7 @@ public final class RandomModels {
       this.graph = graph;
       this.nodes = Math.min(nodes, MOST_NODES);
       this.wanted = wanted;
-      leastCost = Integer.MAX_VALUE;
+      leastCost = ABOVE_ANY_COST;
       place(0, 0);
       found = true;
       return leastCost;
@@ -788,7 +845,7 @@ public final class RandomModels {
     }
 
     private void compare() {
-      int cost = cost();
+      int cost = costOfTrial();
       if (cost < leastCost) {
         leastCost = cost;
         System.arraycopy(trial, 0, best, 0, MOST_NODES);
@@ -796,7 +853,7 @@ public final class RandomModels {
     }
 
     /** It fits: the product is at most the ways to choose all edges of all pairs, 6435. */
-    private int cost() {
+    private int costOfTrial() {
       countPairs();
       int product = 1;
       for (int place = 0; place < room.length; place++) {
@@ -821,11 +878,11 @@ public final class RandomModels {
     }
 
     private static int choices(int of, int chosen) {
-      int ways = 1;
+      int count = 1;
       for (int i = 0; i < chosen; i++) {
-        ways = ways * (of - i) / (i + 1);
+        count = count * (of - i) / (i + 1);
       }
-      return ways;
+      return count;
     }
   }
 }
