@@ -10,51 +10,42 @@ public final class AlikeTest {
     CHECK.finish();
   }
 
-  private static RandomModels graph(int n, int... ends) {
-    RandomModels x = new RandomModels();
-    x.begin(n);
-    for (int i = 0; i + 1 < ends.length; i += 2) {
-      x.edge(ends[i], ends[i + 1], true);
-    }
-    return x;
-  }
-
   private static void kinds() {
-    CHECK.due("one node", graph(1).kinds(), 1);
-    CHECK.due("no edges", graph(6).kinds(), 1);
-    CHECK.due("one edge", graph(6, 2, 5).kinds(), 15);
-    CHECK.due("path of four", graph(4, 0, 1, 1, 2, 2, 3).kinds(), 12);
-    CHECK.due("star of four", graph(4, 1, 0, 1, 2, 1, 3).kinds(), 4);
-    CHECK.due("ring of five", graph(5, 0, 1, 1, 2, 2, 3, 3, 4, 4, 0).kinds(), 12);
-    CHECK.due("ring of six", graph(6, 0, 1, 1, 2, 2, 3, 3, 4, 4, 5, 5, 0).kinds(), 60);
-    CHECK.due("two triangles", graph(6, 0, 1, 1, 2, 2, 0, 3, 4, 4, 5, 5, 3).kinds(), 10);
-    CHECK.due("no two nodes are like", graph(6, 0, 1, 1, 2, 2, 3, 3, 4, 2, 5, 3, 5).kinds(), 720);
-    RandomModels whole = graph(6);
+    CHECK.due("one node", Graphs.withEdges(1).kinds(), 1);
+    CHECK.due("no edges", Graphs.withEdges(6).kinds(), 1);
+    CHECK.due("one edge", Graphs.withEdges(6, 2, 5).kinds(), 15);
+    CHECK.due("path of four", Graphs.withEdges(4, 0, 1, 1, 2, 2, 3).kinds(), 12);
+    CHECK.due("star of four", Graphs.withEdges(4, 1, 0, 1, 2, 1, 3).kinds(), 4);
+    CHECK.due("ring of five", Graphs.withEdges(5, 0, 1, 1, 2, 2, 3, 3, 4, 4, 0).kinds(), 12);
+    CHECK.due("ring of six", Graphs.withEdges(6, 0, 1, 1, 2, 2, 3, 3, 4, 4, 5, 5, 0).kinds(), 60);
+    CHECK.due("two triangles", Graphs.withEdges(6, 0, 1, 1, 2, 2, 0, 3, 4, 4, 5, 5, 3).kinds(), 10);
+    CHECK.due("no two nodes are like", Graphs.withEdges(6, 0, 1, 1, 2, 2, 3, 3, 4, 2, 5, 3, 5).kinds(), 720);
+    RandomModels whole = Graphs.withEdges(6);
     whole.become(32767);
     CHECK.due("all edges", whole.kinds(), 1);
-    RandomModels labelled = graph(3, 0, 1);
+    RandomModels labelled = Graphs.withEdges(3, 0, 1);
     labelled.label(0, 1);
     labelled.label(1, 2);
     CHECK.due("labels do not matter", labelled.kinds(), 3);
   }
 
   private static void alike() {
-    RandomModels ring = graph(6, 0, 1, 1, 2, 2, 3, 3, 4, 4, 5, 5, 0);
-    RandomModels crossed = graph(6, 0, 3, 3, 1, 1, 5, 5, 2, 2, 4, 4, 0);
-    RandomModels triangles = graph(6, 0, 1, 1, 2, 2, 0, 3, 4, 4, 5, 5, 3);
+    RandomModels ring = Graphs.withEdges(6, 0, 1, 1, 2, 2, 3, 3, 4, 4, 5, 5, 0);
+    RandomModels crossed = Graphs.withEdges(6, 0, 3, 3, 1, 1, 5, 5, 2, 2, 4, 4, 0);
+    RandomModels triangles = Graphs.withEdges(6, 0, 1, 1, 2, 2, 0, 3, 4, 4, 5, 5, 3);
     CHECK.due("itself", ring.alike(ring.number()), 1);
     CHECK.due("another ring", ring.alike(crossed.number()), 1);
     CHECK.due("two triangles have the same degrees", ring.alike(triangles.number()), 0);
     CHECK.due("the other way", triangles.alike(ring.number()), 0);
     CHECK.due("no edges", ring.alike(0), 0);
-    CHECK.due("nothing changes", ring.number(), graph(6, 0, 1, 1, 2, 2, 3, 3, 4, 4, 5, 5, 0).number());
-    RandomModels labelled = graph(3, 0, 1);
+    CHECK.due("nothing changes", ring.number(), Graphs.withEdges(6, 0, 1, 1, 2, 2, 3, 3, 4, 4, 5, 5, 0).number());
+    RandomModels labelled = Graphs.withEdges(3, 0, 1);
     labelled.label(0, 2);
     CHECK.due("labels do not matter", labelled.alike(4), 1);
   }
 
   private static void wrong() {
-    RandomModels x = graph(3, 0, 1);
+    RandomModels x = Graphs.withEdges(3, 0, 1);
     for (int number : new int[] {-1, 8, Integer.MIN_VALUE, Integer.MAX_VALUE}) {
       CHECK.due("alike(" + number + ")", x.alike(number), -1);
     }
@@ -80,7 +71,7 @@ public final class AlikeTest {
   }
 
   private static int kindsOf(int n, int number) {
-    RandomModels x = graph(n);
+    RandomModels x = Graphs.withEdges(n);
     x.become(number);
     return x.kinds();
   }
@@ -91,7 +82,7 @@ public final class AlikeTest {
     for (int other = 0; other < seen.length; other++) {
       // An object is good for 512 calls.
       if (other % 500 == 0) {
-        x = graph(n);
+        x = Graphs.withEdges(n);
         x.become(number);
       }
       if (x.alike(other) == 1) {

@@ -12,15 +12,6 @@ public final class BlocksTest {
     CHECK.finish();
   }
 
-  private static RandomModels graph(int n, int... ends) {
-    RandomModels x = new RandomModels();
-    x.begin(n);
-    for (int i = 0; i + 1 < ends.length; i += 2) {
-      x.edge(ends[i], ends[i + 1], true);
-    }
-    return x;
-  }
-
   private static void expect(String name, RandomModels x, int k, int cost, int... due) {
     CHECK.due(name + ": blocks(" + k + ")", x.blocks(k), cost);
     for (int node = 0; node < due.length; node++) {
@@ -29,28 +20,28 @@ public final class BlocksTest {
   }
 
   private static void known() {
-    expect("star", graph(4, 0, 1, 0, 2, 0, 3), 2, 1, 0, 1, 1, 1);
-    expect("star with 2 amid", graph(4, 2, 1, 0, 2, 2, 3), 2, 1, 0, 0, 1, 0);
-    expect("path", graph(3, 0, 1, 1, 2), 2, 1, 0, 1, 0);
-    expect("ring of four", graph(4, 0, 1, 1, 2, 2, 3, 3, 0), 2, 1, 0, 1, 0, 1);
-    expect("two triangles", graph(6, 0, 2, 2, 4, 4, 0, 1, 3, 3, 5, 5, 1), 2, 1, 0, 1, 0, 1, 0, 1);
+    expect("star", Graphs.withEdges(4, 0, 1, 0, 2, 0, 3), 2, 1, 0, 1, 1, 1);
+    expect("star with 2 amid", Graphs.withEdges(4, 2, 1, 0, 2, 2, 3), 2, 1, 0, 0, 1, 0);
+    expect("path", Graphs.withEdges(3, 0, 1, 1, 2), 2, 1, 0, 1, 0);
+    expect("ring of four", Graphs.withEdges(4, 0, 1, 1, 2, 2, 3, 3, 0), 2, 1, 0, 1, 0, 1);
+    expect("two triangles", Graphs.withEdges(6, 0, 2, 2, 4, 4, 0, 1, 3, 3, 5, 5, 1), 2, 1, 0, 1, 0, 1, 0, 1);
     // Three nodes and one cost 9. Two and two: only the edges between count, of 4 pairs:
     // 0, 1 and 2, 3: one edge, 4; 0, 2 and 1, 3: three, 4; 0, 3 and 1, 2: two, 6.
-    expect("path of four", graph(4, 0, 1, 1, 2, 2, 3), 2, 4, 0, 0, 1, 1);
+    expect("path of four", Graphs.withEdges(4, 0, 1, 1, 2, 2, 3), 2, 4, 0, 0, 1, 1);
   }
 
   private static void likeCosts() {
-    expect("no edges", graph(6), 2, 1, 0, 0, 0, 0, 0, 1);
-    expect("no edges", graph(6), 3, 1, 0, 0, 0, 0, 1, 2);
-    expect("no edges", graph(4), 3, 1, 0, 0, 1, 2);
-    RandomModels whole = graph(6);
+    expect("no edges", Graphs.withEdges(6), 2, 1, 0, 0, 0, 0, 0, 1);
+    expect("no edges", Graphs.withEdges(6), 3, 1, 0, 0, 0, 0, 1, 2);
+    expect("no edges", Graphs.withEdges(4), 3, 1, 0, 0, 1, 2);
+    RandomModels whole = Graphs.withEdges(6);
     whole.become(32767);
     expect("all edges", whole, 4, 1, 0, 0, 0, 1, 2, 3);
   }
 
   private static void oneAndAll() {
-    expect("one node", graph(1), 1, 1, 0);
-    RandomModels x = graph(6);
+    expect("one node", Graphs.withEdges(1), 1, 1, 0);
+    RandomModels x = Graphs.withEdges(6);
     int[] due = {1, 15, 105, 455, 1365, 3003, 5005, 6435, 6435, 5005, 3003, 1365, 455, 105, 15, 1};
     for (int m = 0; m <= 15; m++) {
       x.become((1 << m) - 1);
@@ -60,7 +51,7 @@ public final class BlocksTest {
   }
 
   private static void latest() {
-    RandomModels x = graph(4, 0, 1);
+    RandomModels x = Graphs.withEdges(4, 0, 1);
     CHECK.due("none yet", x.block(3), -2);
     CHECK.due("blocks(5)", x.blocks(5), -1);
     CHECK.due("a bad one is none", x.block(3), -2);
@@ -81,7 +72,7 @@ public final class BlocksTest {
   }
 
   private static void wrong() {
-    RandomModels x = graph(4, 0, 1);
+    RandomModels x = Graphs.withEdges(4, 0, 1);
     for (int node : new int[] {-1, 4, 6, Integer.MIN_VALUE, Integer.MAX_VALUE}) {
       CHECK.due("block(" + node + "), none yet", x.block(node), -1);
     }
@@ -96,7 +87,7 @@ public final class BlocksTest {
 
   private static void everyGraphOfFour() {
     for (int number = 0; number < 64; number++) {
-      RandomModels x = graph(4);
+      RandomModels x = Graphs.withEdges(4);
       Naive naive = new Naive();
       naive.begin(4);
       x.become(number);

@@ -1,4 +1,3 @@
-import java.math.BigInteger;
 import java.util.Arrays;
 
 /** Promises 18 to 20: seed, swaps, drawn. */
@@ -20,23 +19,9 @@ public final class DrawsTest {
     CHECK.finish();
   }
 
-  private static RandomModels graph(int n, int number) {
-    RandomModels x = new RandomModels();
-    x.begin(n);
-    x.become(number);
-    return x;
-  }
-
-  /** The seed after which the next one is a given one. */
-  private static long before(long next) {
-    BigInteger wrap = BigInteger.ONE.shiftLeft(64);
-    BigInteger inverse = BigInteger.valueOf(FACTOR).modInverse(wrap);
-    return BigInteger.valueOf(next).subtract(BigInteger.valueOf(STEP)).multiply(inverse).longValue();
-  }
-
   private static void firstDraws() {
     // From seed 0 the first one is 1442695040888963407, its half 721347520444481703: odd, by 3: 0.
-    RandomModels x = graph(2, 0);
+    RandomModels x = Graphs.of(2, 0);
     CHECK.due("seed 0 at first", x.drawn(0), 1);
     x.seed(0);
     x.chance(1, 3);
@@ -44,24 +29,24 @@ public final class DrawsTest {
     // The half of a next seed of 2 k or 2 k + 1 is k: the lowest bit does not count.
     for (long k = 0; k < 6; k++) {
       for (long bit = 0; bit < 2; bit++) {
-        x.seed(before(2 * k + bit));
+        x.seed(Seeds.before(2 * k + bit));
         CHECK.due("half of it: " + k, x.drawn(0), k % 3 == 2 ? 1 : 0);
       }
     }
     // Without sign: the half of Long.MIN_VALUE is 2^62, by 3: 1.
     x.chance(2, 3);
-    x.seed(before(Long.MIN_VALUE));
+    x.seed(Seeds.before(Long.MIN_VALUE));
     CHECK.due("half of the least", x.drawn(0), 1);
   }
 
   private static void drawsAgain() {
     // 2^63 - 1 is below no multiple of anything, so both go on from -1.
     for (int v = 1; v <= 10; v++) {
-      RandomModels x = graph(5, 0);
-      RandomModels y = graph(5, 0);
+      RandomModels x = Graphs.of(5, 0);
+      RandomModels y = Graphs.of(5, 0);
       x.chance(1, v);
       y.chance(1, v);
-      x.seed(before(-1));
+      x.seed(Seeds.before(-1));
       y.seed(-1);
       for (int i = 0; i < 10; i++) {
         CHECK.due("drawn again by 1 / " + v, x.drawn(0), y.drawn(0));
@@ -69,14 +54,14 @@ public final class DrawsTest {
     }
     // The greatest multiple of 10^15 is 9223 10^15: its half's own number is refused, one less not.
     long multiple = 9223000000000000000L;
-    RandomModels x = graph(6, 0);
+    RandomModels x = Graphs.of(6, 0);
     x.chance(1, 10);
-    x.seed(before(multiple * 2));
-    RandomModels y = graph(6, 0);
+    x.seed(Seeds.before(multiple * 2));
+    RandomModels y = Graphs.of(6, 0);
     y.chance(1, 10);
     y.seed(multiple * 2);
     CHECK.due("refused at the multiple", x.drawn(0), y.drawn(0));
-    x.seed(before(multiple * 2 - 2));
+    x.seed(Seeds.before(multiple * 2 - 2));
     CHECK.due("taken just below: the last graph", x.drawn(0), 32767);
   }
 
@@ -86,11 +71,11 @@ public final class DrawsTest {
     x.seed(77);
     CHECK.due("drawn(1) of one node", x.drawn(1), 0);
     x.begin(6);
-    RandomModels y = graph(6, 0);
+    RandomModels y = Graphs.of(6, 0);
     y.seed(77 * FACTOR + STEP);
     CHECK.due("one step on", x.drawn(0), y.drawn(0));
     // Three draws a try, even if it is in vain.
-    RandomModels star = graph(3, 3);
+    RandomModels star = Graphs.of(3, 3);
     star.seed(5);
     CHECK.due("two edges with one node in common", star.swaps(2), 0);
     star.begin(6);
@@ -103,28 +88,15 @@ public final class DrawsTest {
   }
 
   private static void swapsKeepDegrees() {
-    RandomModels x = graph(6, 21011);
+    RandomModels x = Graphs.of(6, 21011);
     boolean moved = false;
     for (int i = 0; i < 100; i++) {
       x.seed(i);
       x.swaps(100);
       moved |= x.number() != 21011;
-      CHECK.holds("the degrees stay", Arrays.equals(degrees(x.number()), degrees(21011)));
+      CHECK.holds("the degrees stay", Arrays.equals(Graphs.degrees(6, x.number()), Graphs.degrees(6, 21011)));
     }
     CHECK.holds("swaps move", moved);
-  }
-
-  private static int[] degrees(int number) {
-    int[] degrees = new int[6];
-    int p = 0;
-    for (int b = 1; b < 6; b++) {
-      for (int a = 0; a < b; a++) {
-        degrees[a] += number >> p & 1;
-        degrees[b] += number >> p & 1;
-        p++;
-      }
-    }
-    return degrees;
   }
 
   /** With two edges of four nodes all that can happen in one try is seen over many seeds. */
@@ -135,7 +107,7 @@ public final class DrawsTest {
     int straight = 1 << 1 | 1 << 4;
     int[] seen = new int[3];
     for (int i = 0; i < 120; i++) {
-      RandomModels x = graph(4, from);
+      RandomModels x = Graphs.of(4, from);
       x.seed(i);
       long s1 = i * FACTOR + STEP;
       long s2 = s1 * FACTOR + STEP;
@@ -148,10 +120,10 @@ public final class DrawsTest {
     }
     CHECK.holds("all three happened", seen[0] > 0 && seen[1] > 0 && seen[2] > 0);
     // Both other ways are taken: nothing can be done in a whole graph.
-    CHECK.due("all edges", graph(4, 63).swaps(100), 0);
+    CHECK.due("all edges", Graphs.of(4, 63).swaps(100), 0);
     // One of the two new ones is there: 0, 2 blocks h = 1.
     for (int i = 0; i < 40; i++) {
-      RandomModels x = graph(4, from | 1 << 1);
+      RandomModels x = Graphs.of(4, from | 1 << 1);
       x.seed(i);
       int done = x.swaps(1);
       CHECK.due("done, if and only if it changed", done, x.number() == (from | 1 << 1) ? 0 : 1);
@@ -160,8 +132,8 @@ public final class DrawsTest {
   }
 
   private static void swapsOfFewEdges() {
-    RandomModels x = graph(6, 0);
-    RandomModels y = graph(6, 0);
+    RandomModels x = Graphs.of(6, 0);
+    RandomModels y = Graphs.of(6, 0);
     x.seed(9);
     y.seed(9);
     CHECK.due("no edges", x.swaps(100), 0);
@@ -173,7 +145,7 @@ public final class DrawsTest {
   }
 
   private static void drawnBecomes() {
-    RandomModels x = graph(6, 21011);
+    RandomModels x = Graphs.of(6, 21011);
     x.label(3, 2);
     x.blocks(2);
     int block = x.block(5);
@@ -188,9 +160,9 @@ public final class DrawsTest {
       x.drawn(1);
       CHECK.due("as many edges", x.thing(0), Integer.bitCount(21011));
     }
-    int[] degrees = degrees(x.number());
+    int[] degrees = Graphs.degrees(6, x.number());
     for (int i = 0; i < 50; i++) {
-      CHECK.holds("same degrees", Arrays.equals(degrees(x.drawn(2)), degrees));
+      CHECK.holds("same degrees", Arrays.equals(Graphs.degrees(6, x.drawn(2)), degrees));
     }
     x.chance(0, 3);
     CHECK.due("none by chance 0", x.drawn(0), 0);
@@ -200,12 +172,12 @@ public final class DrawsTest {
 
   /** Over x = 0 .. total - 1 each graph comes as often as it weighs. */
   private static void drawnIsFair() {
-    RandomModels x = graph(3, 0);
+    RandomModels x = Graphs.of(3, 0);
     x.lean(2, 2);
     int[] count = new int[8];
     int last = 0;
     for (long k = 0; k < 35; k++) {
-      x.seed(before(2 * k));
+      x.seed(Seeds.before(2 * k));
       int number = x.drawn(3);
       CHECK.holds("later numbers by greater draws", number >= last);
       last = number;
@@ -218,8 +190,8 @@ public final class DrawsTest {
   }
 
   private static void wrong() {
-    RandomModels x = graph(6, 21011);
-    RandomModels y = graph(6, 21011);
+    RandomModels x = Graphs.of(6, 21011);
+    RandomModels y = Graphs.of(6, 21011);
     for (int tries : new int[] {-1, 101, Integer.MIN_VALUE, Integer.MAX_VALUE}) {
       CHECK.due("swaps(" + tries + ")", x.swaps(tries), -1);
     }

@@ -11,15 +11,8 @@ public final class ModelsTest {
     CHECK.finish();
   }
 
-  private static RandomModels graph(int n, int number) {
-    RandomModels x = new RandomModels();
-    x.begin(n);
-    x.become(number);
-    return x;
-  }
-
   private static void chance() {
-    RandomModels x = graph(3, 0);
+    RandomModels x = Graphs.of(3, 0);
     CHECK.due("1 / 2 at first", x.total(0), 8);
     for (int v = 1; v <= 10; v++) {
       for (int u = 0; u <= v; u++) {
@@ -39,7 +32,7 @@ public final class ModelsTest {
   }
 
   private static void lean() {
-    RandomModels x = graph(3, 0);
+    RandomModels x = Graphs.of(3, 0);
     CHECK.due("1, 1 at first", x.total(3), 8);
     int[][] due = {{1, 1, 8}, {2, 1, 27}, {3, 1, 64}, {1, 2, 9}, {2, 2, 35}, {3, 2, 91}};
     for (int[] d : due) {
@@ -56,10 +49,10 @@ public final class ModelsTest {
 
   private static void many() {
     for (int model = 0; model < 4; model++) {
-      CHECK.due("one node: many(" + model + ")", graph(1, 0).many(model), 1);
-      CHECK.due("one node: total(" + model + ")", graph(1, 0).total(model), 1);
+      CHECK.due("one node: many(" + model + ")", Graphs.of(1, 0).many(model), 1);
+      CHECK.due("one node: total(" + model + ")", Graphs.of(1, 0).total(model), 1);
     }
-    RandomModels x = graph(6, 0);
+    RandomModels x = Graphs.of(6, 0);
     long[] empty = {32768, 1, 1, 32768};
     for (int model = 0; model < 4; model++) {
       CHECK.due("no edges: many(" + model + ")", x.many(model), empty[model]);
@@ -77,7 +70,7 @@ public final class ModelsTest {
   }
 
   private static void total() {
-    RandomModels x = graph(6, 127);
+    RandomModels x = Graphs.of(6, 127);
     CHECK.due("2^15", x.total(0), 32768);
     CHECK.due("7 of 15", x.total(1), 6435);
     CHECK.due("2^15", x.total(3), 32768);
@@ -93,7 +86,7 @@ public final class ModelsTest {
     CHECK.due("3^15", x.total(3), 14348907);
     x.become(32767);
     CHECK.due("all edges, by degrees", x.total(2), 1);
-    RandomModels one = graph(1, 0);
+    RandomModels one = Graphs.of(1, 0);
     one.chance(0, 3);
     CHECK.due("0^0 is 1", one.total(0), 1);
     one.chance(3, 3);
@@ -101,7 +94,7 @@ public final class ModelsTest {
   }
 
   private static void wrongModels() {
-    RandomModels x = graph(4, 45);
+    RandomModels x = Graphs.of(4, 45);
     for (int model : new int[] {-1, 4, Integer.MIN_VALUE, Integer.MAX_VALUE}) {
       CHECK.due("many(" + model + ")", x.many(model), -1);
       CHECK.due("total(" + model + ")", x.total(model), -1);

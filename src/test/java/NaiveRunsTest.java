@@ -20,17 +20,18 @@ public final class NaiveRunsTest {
 
   public static void main(String[] args) {
     Check check = new Check();
-    for (int run = 0; run < 150 && check.allRight(); run++) {
-      new NaiveRunsTest(run, 5, check).run(512);
+    for (int run = 0; run < 300 && check.allRight(); run++) {
+      new NaiveRunsTest(run, 5, check).run();
     }
     for (int run = 0; run < 6 && check.allRight(); run++) {
-      new NaiveRunsTest(-1 - run, 6, check).run(200);
+      new NaiveRunsTest(-1 - run, 6, check).run();
     }
     check.finish();
   }
 
-  private void run(int calls) {
-    for (int i = 0; i < calls && check.allRight(); i++) {
+  /** An object is good for 512 calls, and each turn makes two. */
+  private void run() {
+    for (int turn = 0; turn < 256 && check.allRight(); turn++) {
       int kind = random.nextInt(30);
       if (kind < 10) {
         change(kind);

@@ -11,15 +11,8 @@ public final class OddsTest {
     CHECK.finish();
   }
 
-  private static RandomModels graph(int n, int number) {
-    RandomModels x = new RandomModels();
-    x.begin(n);
-    x.become(number);
-    return x;
-  }
-
   private static RandomModels ringOfSix() {
-    RandomModels x = graph(6, 0);
+    RandomModels x = Graphs.of(6, 0);
     for (int a = 0; a < 6; a++) {
       x.edge(a, (a + 1) % 6, true);
     }
@@ -51,7 +44,7 @@ public final class OddsTest {
   }
 
   private static void odds() {
-    RandomModels triangle = graph(3, 7);
+    RandomModels triangle = Graphs.of(3, 7);
     odds(triangle, 0, 1, 0, 1, 8);
     odds(triangle, 0, 1, 1, 1, 1);
     odds(triangle, 3, 1, 0, 1, 8);
@@ -59,12 +52,12 @@ public final class OddsTest {
     odds(triangle, 3, 1, 0, 2, 9);
     triangle.chance(0, 5);
     odds(triangle, 0, 0, 0, 0, 1);
-    RandomModels path = graph(3, 3);
+    RandomModels path = Graphs.of(3, 3);
     odds(path, 0, 0, 0, 1, 2);
     odds(path, 0, 0, 1, 7, 8);
     odds(path, 0, 6, 0, 1, 1);
     odds(path, 0, 6, 1, 1, 2);
-    RandomModels counted = graph(4, 7);
+    RandomModels counted = Graphs.of(4, 7);
     odds(counted, 1, 1, 0, 1, 5);
     odds(counted, 1, 6, 0, 1, 5);
     odds(counted, 1, 6, 1, 1, 1);
@@ -72,14 +65,14 @@ public final class OddsTest {
     odds(ring, 2, 1, 0, 1, 1);
     odds(ring, 2, 1, 1, 6, 7);
     odds(ring, 2, 3, 1, 6, 7);
-    RandomModels labelled = graph(3, 1);
+    RandomModels labelled = Graphs.of(3, 1);
     labelled.label(2, 1);
     odds(labelled, 0, 7, 0, 1, 2);
     odds(labelled, 0, 7, 1, 1, 1);
   }
 
   private static void mean() {
-    RandomModels x = graph(4, 0);
+    RandomModels x = Graphs.of(4, 0);
     mean(x, 0, 0, 3, 1);
     mean(x, 0, 1, 1, 2);
     mean(x, 0, 2, 3, 1);
@@ -99,7 +92,7 @@ public final class OddsTest {
     mean(x, 0, 7, 1, 3);
     x.label(1, 1);
     mean(x, 0, 7, 0, 1);
-    RandomModels six = graph(6, 0);
+    RandomModels six = Graphs.of(6, 0);
     six.chance(9, 10);
     mean(six, 0, 2, 243, 5);
     six.chance(10, 10);
@@ -108,7 +101,7 @@ public final class OddsTest {
   }
 
   private static void pair() {
-    RandomModels x = graph(3, 0);
+    RandomModels x = Graphs.of(3, 0);
     pair(x, 0, 0, 1, 1, 2);
     pair(x, 1, 0, 1, 0, 1);
     pair(x, 2, 0, 1, 0, 1);
@@ -129,7 +122,7 @@ public final class OddsTest {
   }
 
   private static void likely() {
-    RandomModels x = graph(3, 7);
+    RandomModels x = Graphs.of(3, 7);
     likely(x, 0, 1, 8);
     likely(x, 1, 1, 1);
     likely(x, 2, 1, 1);
@@ -144,11 +137,11 @@ public final class OddsTest {
     likely(x, 3, 54, 91);
     likely(ringOfSix(), 2, 1, 70);
     likely(ringOfSix(), 1, 1, 5005);
-    likely(graph(1, 0), 0, 1, 1);
+    likely(Graphs.of(1, 0), 0, 1, 1);
   }
 
   private static void wrong() {
-    RandomModels x = graph(4, 45);
+    RandomModels x = Graphs.of(4, 45);
     int[] choices = {-1, 2, Integer.MIN_VALUE, Integer.MAX_VALUE};
     for (int c : choices) {
       CHECK.due("odds: side " + c, x.odds(0, 0, c, 0), -1);

@@ -16,33 +16,24 @@ public final class ThingsTest {
     }
   }
 
-  private static RandomModels graph(int n, int... ends) {
-    RandomModels x = new RandomModels();
-    x.begin(n);
-    for (int i = 0; i + 1 < ends.length; i += 2) {
-      x.edge(ends[i], ends[i + 1], true);
-    }
-    return x;
-  }
-
   private static void known() {
-    expect("one node", graph(1), 0, 0, 0, 1, 0, 0, 1, 0);
-    expect("six lone nodes", graph(6), 0, 0, 0, 6, 0, 0, 6, 0);
-    RandomModels whole = graph(6);
+    expect("one node", Graphs.withEdges(1), 0, 0, 0, 1, 0, 0, 1, 0);
+    expect("six lone nodes", Graphs.withEdges(6), 0, 0, 0, 6, 0, 0, 6, 0);
+    RandomModels whole = Graphs.withEdges(6);
     whole.become(32767);
     expect("all edges", whole, 15, 20, 60, 1, 5, 45, 0, 15);
-    expect("ring of six", graph(6, 0, 1, 1, 2, 2, 3, 3, 4, 4, 5, 5, 0), 6, 0, 6, 1, 2, 0, 0, 6);
-    expect("three pairs", graph(6, 0, 5, 1, 4, 2, 3), 3, 0, 0, 3, 1, 0, 0, 3);
-    expect("star", graph(6, 3, 0, 3, 1, 3, 2, 3, 4), 4, 0, 6, 2, 4, 0, 1, 4);
-    expect("long path", graph(6, 5, 0, 0, 4, 4, 1, 1, 3, 3, 2), 5, 0, 4, 1, 2, 0, 0, 5);
-    expect("three by three", graph(6, 0, 3, 0, 4, 0, 5, 1, 3, 1, 4, 1, 5, 2, 3, 2, 4, 2, 5),
+    expect("ring of six", Graphs.withEdges(6, 0, 1, 1, 2, 2, 3, 3, 4, 4, 5, 5, 0), 6, 0, 6, 1, 2, 0, 0, 6);
+    expect("three pairs", Graphs.withEdges(6, 0, 5, 1, 4, 2, 3), 3, 0, 0, 3, 1, 0, 0, 3);
+    expect("star", Graphs.withEdges(6, 3, 0, 3, 1, 3, 2, 3, 4), 4, 0, 6, 2, 4, 0, 1, 4);
+    expect("long path", Graphs.withEdges(6, 5, 0, 0, 4, 4, 1, 1, 3, 3, 2), 5, 0, 4, 1, 2, 0, 0, 5);
+    expect("three by three", Graphs.withEdges(6, 0, 3, 0, 4, 0, 5, 1, 3, 1, 4, 1, 5, 2, 3, 2, 4, 2, 5),
         9, 0, 18, 1, 3, 9, 0, 9);
-    expect("triangle and pair", graph(6, 1, 3, 3, 5, 5, 1, 0, 4), 4, 1, 3, 3, 2, 0, 1, 4);
-    expect("four, all edges", graph(4, 0, 1, 0, 2, 0, 3, 1, 2, 1, 3, 2, 3), 6, 4, 12, 1, 3, 3, 0, 6);
+    expect("triangle and pair", Graphs.withEdges(6, 1, 3, 3, 5, 5, 1, 0, 4), 4, 1, 3, 3, 2, 0, 1, 4);
+    expect("four, all edges", Graphs.withEdges(4, 0, 1, 0, 2, 0, 3, 1, 2, 1, 3, 2, 3), 6, 4, 12, 1, 3, 3, 0, 6);
   }
 
   private static void byLabels() {
-    RandomModels x = graph(4, 0, 1, 1, 2, 2, 3);
+    RandomModels x = Graphs.withEdges(4, 0, 1, 1, 2, 2, 3);
     x.label(0, 1);
     CHECK.due("0 differs", x.thing(7), 2);
     x.label(1, 1);
@@ -57,7 +48,7 @@ public final class ThingsTest {
   }
 
   private static void wrong() {
-    RandomModels x = graph(6, 0, 1);
+    RandomModels x = Graphs.withEdges(6, 0, 1);
     for (int what : new int[] {-1, 8, Integer.MIN_VALUE, Integer.MAX_VALUE}) {
       CHECK.due("thing(" + what + ")", x.thing(what), -1);
     }
