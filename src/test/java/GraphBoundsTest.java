@@ -22,6 +22,7 @@ public final class GraphBoundsTest {
     squaresMayHaveDiagonals();
     partsOfOneNodeAndMore();
     alikeWithinTheBounds();
+    likeDegreesAreNotEnough();
     kindsOfTheEmptyAndTheFullGraph();
     labelsDoNotMatter();
     CHECK.finish();
@@ -335,6 +336,15 @@ public final class GraphBoundsTest {
       CHECK.due("empty to full", x.alike(full), n == 1 ? 1 : 0);
       CHECK.due("alike() changes nothing", x.number(), 0);
     }
+  }
+
+  /** "if the nodes of one can be numbered so that it is the other one". */
+  private static void likeDegreesAreNotEnough() {
+    RandomModels ring = Graphs.withEdges(6, 0, 1, 1, 2, 2, 3, 3, 4, 4, 5, 5, 0);
+    int other = Graphs.numberOf(0, 2, 2, 4, 4, 1, 1, 5, 5, 3, 3, 0);
+    CHECK.due("two triangles", ring.alike(Graphs.numberOf(0, 1, 1, 2, 2, 0, 3, 4, 4, 5, 5, 3)), 0);
+    CHECK.due("another ring", ring.alike(other), 1);
+    CHECK.due("it does not become that", ring.number(), Graphs.numberOf(0, 1, 1, 2, 2, 3, 3, 4, 4, 5, 5, 0));
   }
 
   /** "it, too": one, where every numbering is the same graph. */

@@ -156,6 +156,8 @@ public final class RefusedCallsTest {
     answers.add(x.total(0));
     answers.add(x.likely(0, 0));
     answers.add(x.total(3));
+    answers.add((long) x.thing(7));
+    answers.add(x.mean(0, 7, 0));
     for (int i = 0; i < 3; i++) {
       answers.add((long) x.swaps(2));
       answers.add((long) x.number());
@@ -256,12 +258,26 @@ public final class RefusedCallsTest {
     }
   }
 
+  /** The graph with its nodes numbered from the other end: it is alike, and mostly another one. */
+  private static int mirrored(int n, int number) {
+    int other = 0;
+    int p = 0;
+    for (int b = 1; b < n; b++) {
+      for (int a = 0; a < b; a++) {
+        other |= (number >> p & 1) * Graphs.numberOf(n - 1 - a, n - 1 - b);
+        p++;
+      }
+    }
+    return other;
+  }
+
   private static void askingChangesNothing() {
     for (int n = 1; n <= 6; n++) {
       RandomModels x = made(n);
       x.number();
       x.kinds();
       x.alike(Graphs.full(n));
+      x.alike(mirrored(n, x.number()));
       x.block(0);
       for (int what = 0; what < 8; what++) {
         x.thing(what);
